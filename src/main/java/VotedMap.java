@@ -742,8 +742,10 @@ public final class VotedMap {
         }
 
         private boolean isWalledIn(int person) {
+            int home = homes[person];
             for (int g = 0; g < gates; g++) {
-                if (isOpen(g) && (endsOf(g) >> homes[person] & 1) == 1) {
+                boolean atHome = firstPlots[g] == home || secondPlots[g] == home;
+                if (atHome && (open >> g & 1) == 1) {
                     return false;
                 }
             }
@@ -789,16 +791,13 @@ public final class VotedMap {
             return stepTable[person * GATES + gate];
         }
 
-        private boolean isNear(int person, int gate) {
-            return stepsOf(person, gate) <= near;
-        }
-
         private int voiceOf(int person, int gate) {
             if (sorts[person] == STRANGER) {
                 return 0;
             }
-            if (isNear(person, gate)) {
-                return Math.max(0, weights[person] - stepsOf(person, gate));
+            int passed = stepsOf(person, gate);
+            if (passed <= near) {
+                return Math.max(0, weights[person] - passed);
             }
             return sorts[person] == WALLED && isWalledIn(person) ? 1 : 0;
         }
@@ -817,9 +816,7 @@ public final class VotedMap {
             return sum;
         }
 
-        private boolean isVotedOpen(int gate) {
-            int forOpen = sumOf(gate, true);
-            int forShut = sumOf(gate, false);
+        private boolean isOpenBy(int gate, int forOpen, int forShut) {
             if (forOpen != forShut) {
                 return forOpen > forShut;
             }
@@ -829,7 +826,7 @@ public final class VotedMap {
         private boolean spendsVeto(int gate) {
             for (int p = 0; p < people; p++) {
                 boolean may = sorts[p] == VETOER && (spent >> p & 1) == 0;
-                if (may && isNear(p, gate) && wishFor(p, gate) == 0) {
+                if (may && stepsOf(p, gate) <= near && wishFor(p, gate) == 0) {
                     spent |= 1 << p;
                     return true;
                 }
@@ -841,7 +838,7 @@ public final class VotedMap {
             measure();
             int then = 0;
             for (int g = 0; g < gates; g++) {
-                if (isVotedOpen(g) && !spendsVeto(g)) {
+                if (isOpenBy(g, sumOf(g, true), sumOf(g, false)) && !spendsVeto(g)) {
                     then |= 1 << g;
                 }
             }
@@ -948,16 +945,16 @@ public final class VotedMap {
         /** The set of people, or NONE. */
         int fewest(City now, int gate, int is, int dawns) {
             trial.become(now);
-            int best = NONE;
-            int fewest = PEOPLE + 1;
+            int found = NONE;
+            int least = PEOPLE + 1;
             for (int set = 0; set < 1 << now.people; set++) {
                 int many = Integer.bitCount(set);
-                if (many < fewest && staysSo(now, set, gate, is, dawns)) {
-                    best = set;
-                    fewest = many;
+                if (many < least && staysSo(now, set, gate, is, dawns)) {
+                    found = set;
+                    least = many;
                 }
             }
-            return best;
+            return found;
         }
 
         private boolean staysSo(City now, int set, int gate, int is, int dawns) {
@@ -978,7 +975,8 @@ public final class VotedMap {
 
         int firstSwap(City now, int a, int b) {
             trial.become(now);
-            if (risesGlad(a, b)) {
+            trial.rise();
+            if (areGlad(a, b)) {
                 return NONE;
             }
             for (int one = 0; one < now.gates; one++) {
@@ -995,11 +993,11 @@ public final class VotedMap {
             trial.beginAs(now);
             trial.wishSo(a, one, now.wishFor(b, one));
             trial.wishSo(b, two, now.wishFor(a, two));
-            return risesGlad(a, b);
+            trial.rise();
+            return areGlad(a, b);
         }
 
-        private boolean risesGlad(int a, int b) {
-            trial.rise();
+        private boolean areGlad(int a, int b) {
             return trial.isGlad(a) && trial.isGlad(b);
         }
 
@@ -1008,7 +1006,8 @@ public final class VotedMap {
             for (int set = 0; set <= now.allGates(); set++) {
                 trial.beginAs(now);
                 trial.wishes[person] = set;
-                if (risesGlad(person, person)) {
+                trial.rise();
+                if (trial.isGlad(person)) {
                     return set;
                 }
             }

@@ -224,6 +224,12 @@ final class ForetoldTest {
         VotedMap z = Check.city("p3,0,0;g0,1,0;g1,2,1;v0,1,0,3;v2,2,3,9;");
         law(z, 1, 1, 0, 2);
         check.due("the law itself stays", z.votes(0, 0), 0);
+        VotedMap far = Check.city("p5,0,0;g0,1,1;g1,2,1;g2,3,1;g3,4,0;v0,0,15,9;v4,4,0,1;s3,4,0,0;");
+        law(far, 1, 3, 0, 3);
+        // opened by the tie, gate 1 would take from the walled one his vote for gate 0
+        VotedMap stay = Check.city("p4,0,0;g0,1,1;g2,3,0;w2,2,1,0;v0,1,0,1;");
+        law(stay, 1, 0, 1, 2);
+        law(stay, 2, 0, 2, 2);
     }
 
     private static void opens(VotedMap x, int i, int n, int many, int open, int shut) {

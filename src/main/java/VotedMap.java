@@ -505,7 +505,7 @@ public final class VotedMap {
         private boolean readGates(City c) {
             for (int i = 0; i <= GATES && at < length && bytes[at] == 'g'; i++) {
                 if (i == GATES) {
-                    return hasFault(3, at);
+                    return refuse(3, at);
                 }
                 at++;
                 if (!readGate(c, i)) {
@@ -530,7 +530,7 @@ public final class VotedMap {
             }
             c.secondPlots[gate] = number;
             if (c.firstPlots[gate] == number) {
-                return hasFault(2, place);
+                return refuse(2, place);
             }
             if (!takeSign(',') || !takeNumber(0, 1)) {
                 return false;
@@ -543,10 +543,10 @@ public final class VotedMap {
             for (int i = 0; i <= PEOPLE && at < length; i++) {
                 int sort = sortOf(bytes[at]);
                 if (sort == 0) {
-                    return hasFault(1, at);
+                    return refuse(1, at);
                 }
                 if (i == PEOPLE) {
-                    return hasFault(3, at);
+                    return refuse(3, at);
                 }
                 at++;
                 c.sorts[i] = sort;
@@ -591,7 +591,7 @@ public final class VotedMap {
 
         private boolean takeSign(int sign) {
             if (at >= length || bytes[at] != sign) {
-                return hasFault(1, at);
+                return refuse(1, at);
             }
             at++;
             return true;
@@ -606,10 +606,10 @@ public final class VotedMap {
                 end++;
             }
             if (end == at || end > at + 3) {
-                return hasFault(1, at);
+                return refuse(1, at);
             }
             if (value < least || value > most) {
-                return hasFault(2, at);
+                return refuse(2, at);
             }
             at = end;
             number = value;
@@ -620,7 +620,8 @@ public final class VotedMap {
             return letter >= '0' && letter <= '9';
         }
 
-        private boolean hasFault(int fault, int place) {
+        /** Always false, as what finds a fault reads no further. */
+        private boolean refuse(int fault, int place) {
             faultNumber = fault;
             faultPlace = place;
             return false;

@@ -5,7 +5,11 @@ import java.lang.reflect.Modifier;
 import java.nio.file.Files;
 import java.nio.file.Path;
 import java.util.Arrays;
+import java.util.HashMap;
+import java.util.HashSet;
 import java.util.List;
+import java.util.Map;
+import java.util.Set;
 import java.util.TreeSet;
 import java.util.regex.Matcher;
 import java.util.regex.Pattern;
@@ -19,6 +23,9 @@ final class LanguageTest {
     private static final List<String> CALLS = List.of("Arrays.fill", "Arrays.copyOf", "Arrays.copyOfRange",
         "System.arraycopy", "Math.max", "Math.min", "Math.abs", "Integer.bitCount");
 
+    /** The first line of a method or a constructor, of the class or of one inside it: how far in it stands, its name. */
+    private static final Pattern HEAD = Pattern.compile("( {4}(?: {4})?)(?:[\\w\\[\\]]+ )*(\\w+)\\([^()]*\\) \\{");
+
     public static void main(String[] args) throws IOException {
         String text = Files.readString(Path.of("src/main/java/VotedMap.java"));
         String code = withoutComments(text);
@@ -26,6 +33,8 @@ final class LanguageTest {
         words(code);
         library(code);
         methodsAreShort(text);
+        madeAtFirstAlone(code);
+        callsGoNotDeep(code);
         face();
         classesInside();
         check.finish();
@@ -79,6 +88,58 @@ final class LanguageTest {
         }
     }
 
+    /** "All calls of one run live in ONE room": no call makes an object or a row. */
+    private static void madeAtFirstAlone(String code) {
+        String method = "";
+        String end = "";
+        for (String line : code.split("\n")) {
+            Matcher head = HEAD.matcher(line);
+            if (head.lookingAt()) {
+                method = head.group(2);
+                end = head.group(1) + "}";
+            } else if (line.equals(end)) {
+                method = "";
+            }
+            boolean makes = line.matches(".*\\bnew\\b.*");
+            check.due("something is made: " + line, makes && !method.isEmpty() && !method.equals("VotedMap") ? 1 : 0, 0);
+        }
+    }
+
+    /** 11: what each method calls, by names (of two classes' methods of one name both are meant). */
+    private static void callsGoNotDeep(String code) {
+        Map<String, Set<String>> words = new HashMap<>();
+        String method = "";
+        for (String line : code.split("\n")) {
+            Matcher head = HEAD.matcher(line);
+            int from = 0;
+            if (head.lookingAt()) {
+                method = head.group(2);
+                from = head.end();
+                words.computeIfAbsent(method, m -> new HashSet<>());
+            }
+            Matcher call = Pattern.compile("(\\w+)\\(").matcher(line.substring(from));
+            while (!method.isEmpty() && call.find()) {
+                words.get(method).add(call.group(1));
+            }
+        }
+        check.due("methods are found", words.size() > 60 ? 1 : 0, 1);
+        for (String name : words.keySet()) {
+            int deep = depth(words, name, 0);
+            check.due("11: " + name + " calls " + deep + " deep", deep > 8 ? 1 : 0, 0);
+        }
+    }
+
+    /** How many calls stand open at most, of this one on; a call of itself is a recursion, and is not counted. */
+    private static int depth(Map<String, Set<String>> words, String name, int open) {
+        int deepest = 0;
+        for (String called : words.get(name)) {
+            if (open < 20 && !called.equals(name) && words.containsKey(called)) {
+                deepest = Math.max(deepest, depth(words, called, open + 1));
+            }
+        }
+        return 1 + deepest;
+    }
+
     private static void face() {
         TreeSet<String> members = new TreeSet<>();
         for (Method m : VotedMap.class.getDeclaredMethods()) {
@@ -86,6 +147,9 @@ final class LanguageTest {
                 members.add(m.getName() + "/" + m.getParameterCount());
                 check.due(m.getName() + " answers int", m.getReturnType() == int.class ? 1 : 0, 1);
                 check.due(m.getName() + " is of the object", m.getModifiers(), Modifier.PUBLIC);
+                for (Class<?> told : m.getParameterTypes()) {
+                    check.due(m.getName() + " is told ints", told == int.class ? 1 : 0, 1);
+                }
             }
         }
         check.due("1: the face is " + members, members.equals(new TreeSet<>(Arrays.asList(FACE.trim().split(" ")))) ? 1 : 0, 1);
@@ -96,6 +160,8 @@ final class LanguageTest {
         }
         check.due("public and final", VotedMap.class.getModifiers(), Modifier.PUBLIC | Modifier.FINAL);
         check.due("one constructor", VotedMap.class.getDeclaredConstructors().length, 1);
+        check.due("it is public", VotedMap.class.getConstructors().length, 1);
+        check.due("it is told nothing", VotedMap.class.getDeclaredConstructors()[0].getParameterCount(), 0);
         privateNames(VotedMap.class);
     }
 

@@ -7,15 +7,15 @@ final class Told {
         "p6,0,0;g0,1,0;g0,2,0;g0,3,0;g0,4,0;g0,5,0;s0,1,0,0;s0,2,0,0;s0,3,0,0;s0,4,0,0;s0,5,0,0;";
 
     private final StringBuilder text = new StringBuilder();
-    private final int counts;
+    /** Ahead of each title: an image has parts that bear the names of the city's. */
+    private String of = "";
 
-    private Told(int counts) {
-        this.counts = counts;
+    private Told() {
     }
 
-    /** All but status(). */
+    /** All but status(): a line for each part, with a title of its own. */
     static String all(Consumer<VotedMap> made) {
-        Told t = new Told(9);
+        Told t = new Told();
         t.lookAt(made);
         t.tape(madeBy(made));
         return t.text.toString();
@@ -23,8 +23,7 @@ final class Told {
 
     /** All but status(), fault() and the tape. */
     static String allButTape(Consumer<VotedMap> made) {
-        // how many bytes are on the tape is the last one of count()
-        Told t = new Told(8);
+        Told t = new Told();
         t.lookAt(made);
         return t.text.toString();
     }
@@ -48,8 +47,8 @@ final class Told {
         text.append(answer).append(' ');
     }
 
-    private void title(String of) {
-        text.append('\n').append(of).append(": ");
+    private void title(String part) {
+        text.append('\n').append(of).append(part).append(": ");
     }
 
     private void city(VotedMap x) {
@@ -57,40 +56,62 @@ final class Told {
         for (int i = -1; i <= 16; i++) {
             add(x.trace(i));
         }
+        title("how many rows");
+        add(x.count(0));
         plan(x);
         votes(x);
     }
 
     private void plan(VotedMap x) {
-        title("counts");
-        for (int what = 0; what < counts; what++) {
+        title("how many plots, gates, people");
+        for (int what = 1; what <= 3; what++) {
             add(x.count(what));
         }
-        title("people");
-        for (int p = 0; p < x.count(3); p++) {
-            for (int what = 0; what <= 4; what++) {
-                add(x.person(p, what));
-            }
-            add(x.kind(p));
-        }
-        title("gates");
-        for (int g = 0; g < x.count(2); g++) {
-            for (int what = 0; what <= 2; what++) {
-                add(x.gate(g, what));
-            }
-        }
+        title("day");
+        add(x.count(4));
+        title("open");
+        add(x.count(5));
+        title("spent");
+        add(x.count(6));
+        people(x);
+        gates(x);
         title("mornings");
         for (int n = 0; n <= 5; n++) {
             add(x.ahead(n, 0));
         }
     }
 
+    private void people(VotedMap x) {
+        title("kinds");
+        for (int p = 0; p < x.count(3); p++) {
+            add(x.kind(p));
+        }
+        String[] parts = {"homes", "errands", "wishes", "weights", "who has spent his"};
+        for (int what = 0; what <= 4; what++) {
+            title(parts[what]);
+            for (int p = 0; p < x.count(3); p++) {
+                add(x.person(p, what));
+            }
+        }
+    }
+
+    private void gates(VotedMap x) {
+        String[] parts = {"first plots", "second plots", "gate by gate"};
+        for (int what = 0; what <= 2; what++) {
+            title(parts[what]);
+            for (int g = 0; g < x.count(2); g++) {
+                add(x.gate(g, what));
+            }
+        }
+    }
+
     private void votes(VotedMap x) {
-        title("votes, reach, steps");
+        title("votes");
         for (int g = 0; g < x.count(2); g++) {
             add(x.votes(g, 0));
             add(x.votes(g, 1));
         }
+        title("reach, steps");
         for (int plot = 0; plot < x.count(1); plot++) {
             add(x.reach(plot));
         }
@@ -102,6 +123,8 @@ final class Told {
     }
 
     private void undone(VotedMap x) {
+        title("acts");
+        add(x.count(7));
         title("undone");
         for (int left = x.count(7); left >= 0; left--) {
             add(x.undo());
@@ -116,10 +139,15 @@ final class Told {
 
     private void images(VotedMap x) {
         for (int k = 0; k <= 1; k++) {
-            title("image " + k);
-            add(x.restore(k));
-            plan(x);
+            of = "image " + k + " ";
+            title("restored");
+            int restored = x.restore(k);
+            add(restored);
+            if (restored == 1) {
+                plan(x);
+            }
         }
+        of = "";
     }
 
     private void row(Consumer<VotedMap> made, int row) {
@@ -163,13 +191,20 @@ final class Told {
         }
     }
 
-    /** The bytes on the tape: where its text ends, and what it would be with an end. */
+    /** The bytes on the tape: how many, and what they would be with an end. */
     private void tape(VotedMap x) {
-        title("tape");
+        title("fault");
         add(x.fault());
+        title("bytes");
+        add(x.count(8));
+        of = "tape ";
         Check.feed(x, ",1;");
-        add(x.city());
+        title("read");
+        int read = x.city();
+        add(read);
         add(x.fault());
-        plan(x);
+        if (read > 0) {
+            plan(x);
+        }
     }
 }

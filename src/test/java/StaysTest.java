@@ -15,10 +15,16 @@ final class StaysTest {
     private static final String CITY = "how many plots, gates, people|kinds|homes|errands|wishes|weights"
         + "|first plots|second plots|" + DAWN;
     private static final String TAPE = "bytes|tape .*";
-    private static final Consumer<VotedMap> LIVED = Edges::live;
+    private static final Consumer<VotedMap> LIVED = x -> {
+        Edges.live(x);
+        x.turn(1);
+        // the vetoer shuts gate 1: a VETO is SPENT, which calls may leave so or not
+        x.dawn(1);
+    };
     private static final Map<String, String> before = parts(LIVED);
 
     public static void main(String[] args) {
+        spent();
         rows();
         texts();
         acts();
@@ -60,7 +66,7 @@ final class StaysTest {
 
     private static void statusBehind(String call, int want, Consumer<VotedMap> made) {
         VotedMap x = new VotedMap();
-        Edges.live(x);
+        LIVED.accept(x);
         x.row(7, 0, -1);
         made.accept(x);
         check.due("status() behind " + call, x.status(), want);
@@ -74,6 +80,13 @@ final class StaysTest {
     private static void withRow(String call, String fits, Consumer<VotedMap> made) {
         alters(call, fits, made);
         statusBehind(call, 0, made);
+    }
+
+    private static void spent() {
+        VotedMap x = new VotedMap();
+        LIVED.accept(x);
+        check.due("whose VETO is SPENT", x.count(6), 8);
+        check.due("DAY", x.count(4), 3);
     }
 
     private static void rows() {
